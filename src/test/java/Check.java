@@ -1,0 +1,69 @@
+/** Counts and prints the answers that are not the ones that are due. */
+final class Check {
+    interface Call {
+        void run();
+    }
+
+    private static int wrong = 0;
+    private static int asked = 0;
+
+    private Check() {
+    }
+
+    static void due(String call, long got, long want) {
+        asked++;
+        if (got != want) {
+            wrong++;
+            System.out.println(call + " answered " + got + ", due is " + want);
+        }
+    }
+
+    static void due(String call, boolean got, boolean want) {
+        due(call, got ? 1 : 0, want ? 1 : 0);
+    }
+
+    static void due(String what, String got, String want) {
+        asked++;
+        if (!got.equals(want)) {
+            wrong++;
+            System.out.println(what + " is\n" + got + "due is\n" + want);
+        }
+    }
+
+    /** The call must throw just that class, and leave all that can be asked of the object as it was. */
+    static void refuses(StateBench x, String call, Class<? extends RuntimeException> want, Call made) {
+        String before = Snapshot.of(x);
+        String got = "nothing";
+        try {
+            made.run();
+        } catch (RuntimeException e) {
+            got = e.getClass().getSimpleName();
+        }
+        asked++;
+        if (!got.equals(want.getSimpleName())) {
+            wrong++;
+            System.out.println(call + " threw " + got + ", due is " + want.getSimpleName());
+        }
+        due("the state after " + call, Snapshot.of(x), before);
+    }
+
+    static void illegalArgument(StateBench x, String call, Call made) {
+        refuses(x, call, IllegalArgumentException.class, made);
+    }
+
+    static void illegalState(StateBench x, String call, Call made) {
+        refuses(x, call, IllegalStateException.class, made);
+    }
+
+    static void outOfBounds(StateBench x, String call, Call made) {
+        refuses(x, call, IndexOutOfBoundsException.class, made);
+    }
+
+    /** Ends the test: exit code 1 if an answer was wrong, or if none was asked for. */
+    static void end() {
+        System.out.println(asked + " answers, " + wrong + " not as due");
+        if (wrong != 0 || asked == 0) {
+            System.exit(1);
+        }
+    }
+}
