@@ -26,8 +26,16 @@ final class Check {
         asked++;
         if (!got.equals(want)) {
             wrong++;
-            System.out.println(what + " is\n" + got + "due is\n" + want);
+            printFirstDifference(what, got.split("\n", -1), want.split("\n", -1));
         }
+    }
+
+    private static void printFirstDifference(String what, String[] got, String[] want) {
+        int line = 0;
+        while (line < got.length - 1 && line < want.length - 1 && got[line].equals(want[line])) {
+            line++;
+        }
+        System.out.println(what + " is \"" + got[line] + "\", due is \"" + want[line] + "\"");
     }
 
     /** The call must throw just that class, and leave all that can be asked of the object as it was. */

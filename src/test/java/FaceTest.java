@@ -15,7 +15,7 @@ public final class FaceTest {
 
     public static void main(String[] args) {
         TreeSet<String> due = new TreeSet<>(Arrays.asList(FACE));
-        Check.due("the face", visibleMembers() + "\n", due + "\n");
+        Check.due("the face", visibleMembers().toString(), due.toString());
         Check.due("final", Modifier.isFinal(StateBench.class.getModifiers()), true);
         for (Class<?> inside : StateBench.class.getDeclaredClasses()) {
             Check.due(inside + " is static", Modifier.isStatic(inside.getModifiers()), true);

@@ -162,7 +162,7 @@ public final class ModelTest {
     }
 
     private static void same(String call, IntSupplier real, IntSupplier plain) {
-        Check.due(call, answer(real) + "\n", answer(plain) + "\n");
+        Check.due(call, answer(real), answer(plain));
     }
 
     private static String answer(IntSupplier call) {

@@ -16,6 +16,7 @@ public final class WaysTest {
         longestChain();
         sixteenFirstSteps();
         waysGoWithTheirAdverts();
+        eachQuestionSeesTheNewestBase();
         Check.end();
     }
 
@@ -233,5 +234,22 @@ public final class WaysTest {
         Check.due("cost(7) with its own anew", x.cost(7), 11);
         x.pass(100);
         Check.due("cost(7) without that of 1", x.cost(7), -1);
+    }
+
+    /** Each question is the first one after a change, so none can lean on what another one found. */
+    private static void eachQuestionSeesTheNewestBase() {
+        StateBench x = withFriends(1);
+        Adverts.come(x, 1, 1, 0, 5, 1, -1, 7, 1);
+        Check.due("first(7, 0)", x.first(7, 0), 5 * 64 + 1);
+        Adverts.come(x, 1, 2, -1, 7, 1);
+        Check.due("firsts(7) without a way to 1", x.firsts(7), 0);
+        Adverts.come(x, 1, 3, 0, 5, 1, -1, 7, 2);
+        Check.due("cost(7)", x.cost(7), 12);
+        Adverts.come(x, 1, 4, -1, 7, 2);
+        Check.due("distance(1) without a way to it", x.distance(1), -1);
+        Adverts.come(x, 1, 5, 0, 5, 1, -1, 7, 2);
+        Check.due("firsts(7)", x.firsts(7), 1);
+        x.pass(5000);
+        Check.due("firsts(7) when both are out", x.firsts(7), 0);
     }
 }
