@@ -5,6 +5,7 @@ public final class BaseTest {
     public static void main(String[] args) {
         numberAndEntries();
         told();
+        toldAtTheEnds();
         toldRefuses();
         draftIsNoPartOfTheBase();
         Check.end();
@@ -37,6 +38,32 @@ public final class BaseTest {
         Check.due("told(63, 1, 0)", x.told(63, 1, 0), -1);
         Check.due("told(63, 1, 1)", x.told(63, 1, 1), 8);
         Check.due("told(63, 1, 2)", x.told(63, 1, 2), 9);
+    }
+
+    /** The neighbours have entries too, so that no row may be read beyond its end. */
+    private static void toldAtTheEnds() {
+        StateBench x = new StateBench(0);
+        for (int origin : new int[] {6, 8, 63}) {
+            x.begin(origin, 1);
+            for (int net = 0; net < 24; net++) {
+                x.entry(-1, net, origin);
+            }
+            x.come();
+        }
+        Adverts.come(x, 7, 1);
+        Check.outOfBounds(x, "told(7, 0, 0) of an empty one", () -> x.told(7, 0, 0));
+        Check.outOfBounds(x, "told(7, -1, 0) of an empty one", () -> x.told(7, -1, 0));
+        for (int origin : new int[] {6, 8, 63}) {
+            Check.due("told(" + origin + ", 0, 1)", x.told(origin, 0, 1), 0);
+            Check.due("told(" + origin + ", 23, 0)", x.told(origin, 23, 0), -1);
+            Check.due("told(" + origin + ", 23, 1)", x.told(origin, 23, 1), 23);
+            Check.due("told(" + origin + ", 23, 2)", x.told(origin, 23, 2), origin);
+            Check.outOfBounds(x, "told(" + origin + ", 24, 0)", () -> x.told(origin, 24, 0));
+            Check.outOfBounds(x, "told(" + origin + ", -1, 0)", () -> x.told(origin, -1, 0));
+        }
+        Check.outOfBounds(x, "told(9, -1, 0) behind a full one", () -> x.told(9, -1, 0));
+        x.pass(5000);
+        Check.outOfBounds(x, "told(63, 0, 0) when it is out", () -> x.told(63, 0, 0));
     }
 
     private static void toldRefuses() {

@@ -41,18 +41,22 @@ final class Check {
     /** The call must throw just that class, and leave all that can be asked of the object as it was. */
     static void refuses(StateBench x, String call, Class<? extends RuntimeException> want, Call made) {
         String before = Snapshot.of(x);
-        String got = "nothing";
+        due("what " + call + " throws", whatItThrows(made), want.getSimpleName());
+        due("the state after " + call, Snapshot.of(x), before);
+    }
+
+    static String whatItThrows(Call made) {
         try {
             made.run();
         } catch (RuntimeException e) {
-            got = e.getClass().getSimpleName();
+            return e.getClass().getSimpleName();
         }
-        asked++;
-        if (!got.equals(want.getSimpleName())) {
-            wrong++;
-            System.out.println(call + " threw " + got + ", due is " + want.getSimpleName());
-        }
-        due("the state after " + call, Snapshot.of(x), before);
+        return "nothing";
+    }
+
+    /** The call must not throw; what it answers is held elsewhere. */
+    static void answers(String call, Call made) {
+        due(call, whatItThrows(made), "nothing");
     }
 
     static void illegalArgument(StateBench x, String call, Call made) {

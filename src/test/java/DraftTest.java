@@ -6,12 +6,17 @@ public final class DraftTest {
         beginRefuses();
         beginTakesTheEdges();
         beginInPlaceOfOne();
+        beginInPlaceOfAFullOne();
+        draftWaits();
         entry();
         entryRefuses();
         entryWithoutDraft();
+        entryOfItsOwnDraft();
         twentyFifthEntry();
         comeOfOthers();
+        comeAtTheEndsOfNumbers();
         comeOfItself();
+        comeOfItselfAtTheEndsOfNumbers();
         comeTakesTheDraftAway();
         Check.end();
     }
@@ -48,6 +53,33 @@ public final class DraftTest {
         Check.due("number(1)", x.number(1), -1);
         Check.due("number(2)", x.number(2), 8);
         Check.due("entries of 2", Adverts.entriesOf(x, 2), "1/3/5 ");
+    }
+
+    private static void beginInPlaceOfAFullOne() {
+        StateBench x = new StateBench(0);
+        x.begin(7, 1);
+        for (int net = 0; net < 24; net++) {
+            x.entry(-1, net, 1);
+        }
+        x.begin(7, 1);
+        Check.due("entry(-1, 23, 2), which the one before had", x.entry(-1, 23, 2), 1);
+        x.begin(8, 1);
+        Check.due("entry(7, 23, 2), the origin of the one before", x.entry(7, 23, 2), 1);
+        Check.illegalArgument(x, "entry(8, 23, 2)", () -> x.entry(8, 23, 2));
+    }
+
+    /** It grows old only from when it is taken, and nothing but come and begin takes it away. */
+    private static void draftWaits() {
+        StateBench x = new StateBench(0);
+        Adverts.draft(x, 7, 3, -1, 1, 1);
+        x.port(2, 2);
+        x.make();
+        Check.due("pass(10000): its own one goes, not the draft", x.pass(10000), 1);
+        Check.due("entry(1, 1, 1)", x.entry(1, 1, 1), 2);
+        Check.due("come()", x.come(), 0);
+        Check.due("age(7)", x.age(7), 0);
+        Check.due("pass(4999)", x.pass(4999), 0);
+        Check.due("entries of 7", Adverts.entriesOf(x, 7), "-1/1/1 1/1/1 ");
     }
 
     private static void entry() {
@@ -97,6 +129,19 @@ public final class DraftTest {
         Check.illegalState(x, "entry(-1, 1, 1) when it is gone", () -> x.entry(-1, 1, 1));
     }
 
+    private static void entryOfItsOwnDraft() {
+        StateBench x = new StateBench(3);
+        x.begin(3, 1);
+        Check.illegalArgument(x, "entry(3, 1, 1), the origin and itself", () -> x.entry(3, 1, 1));
+        Check.due("entry(4, 1, 1)", x.entry(4, 1, 1), 1);
+        x.begin(4, 1);
+        Check.due("entry(3, 1, 1), itself but not the origin", x.entry(3, 1, 1), 1);
+        x.begin(0, 1);
+        Check.illegalArgument(x, "entry(0, 1, 1), the origin", () -> x.entry(0, 1, 1));
+        x.begin(63, 1);
+        Check.illegalArgument(x, "entry(63, 1, 1), the origin", () -> x.entry(63, 1, 1));
+    }
+
     private static void twentyFifthEntry() {
         StateBench x = new StateBench(0);
         x.begin(7, 1);
@@ -130,6 +175,41 @@ public final class DraftTest {
         x.pass(5000);
         Check.due("come of 1, 1 when it is out", Adverts.come(x, 1, 1), 0);
         Check.due("make(): numbers of others do not count", x.make(), 1);
+    }
+
+    private static void comeAtTheEndsOfNumbers() {
+        StateBench x = new StateBench(5);
+        for (int origin : new int[] {0, 63}) {
+            Check.due("come of the least", Adverts.come(x, origin, 1), 0);
+            Check.due("come of the least again", Adverts.come(x, origin, 1), 1);
+            Check.due("come of 2", Adverts.come(x, origin, 2), 0);
+            Check.due("come of the least after 2", Adverts.come(x, origin, 1), 2);
+            Check.due("come of the greatest but one", Adverts.come(x, origin, 999999999), 0);
+            Check.due("come of the greatest", Adverts.come(x, origin, 1000000000), 0);
+            Check.due("come of the greatest again", Adverts.come(x, origin, 1000000000), 1);
+            Check.due("come of the greatest but one after it", Adverts.come(x, origin, 999999999), 2);
+            Check.due("come of the least after the greatest", Adverts.come(x, origin, 1), 2);
+            Check.due("number", x.number(origin), 1000000000);
+        }
+        x.pass(4999);
+        Check.due("come of the least at 4999", Adverts.come(x, 63, 1), 2);
+        x.pass(1);
+        Check.due("come of the least at 5000", Adverts.come(x, 63, 1), 0);
+    }
+
+    private static void comeOfItselfAtTheEndsOfNumbers() {
+        StateBench x = new StateBench(63);
+        Check.due("come of the least", Adverts.come(x, 63, 1), 3);
+        Check.due("come of the least again", Adverts.come(x, 63, 1), 4);
+        Check.due("make()", x.make(), 2);
+        Check.due("come of the one made", Adverts.come(x, 63, 2), 4);
+        Check.due("come of one more", Adverts.come(x, 63, 3), 3);
+        Check.due("come of the greatest", Adverts.come(x, 63, 1000000000), 3);
+        Check.due("come of the greatest again", Adverts.come(x, 63, 1000000000), 4);
+        x.pass(10);
+        Check.due("make() over the greatest", x.make(), 1000000001);
+        Check.due("come of the greatest after that", Adverts.come(x, 63, 1000000000), 4);
+        Check.due("known()", x.known(), 1);
     }
 
     private static void comeOfItself() {

@@ -9,10 +9,13 @@ public final class LinksTest {
         portRefuses();
         ninthPort();
         portGoesWithItsFriends();
+        portGoesWithTheFirstAndTheLastRouter();
         friend();
         friendRefuses();
         seventeenthFriend();
+        sixteenFriendsGoWithOnePort();
         whatIsToldIsInOrder();
+        mostThatItTells();
         Check.end();
     }
 
@@ -101,6 +104,23 @@ public final class LinksTest {
         x.make();
         Check.due("what it tells", Adverts.entriesOf(x, 0), "-1/1/5 -1/2/4 -1/3/7 9/1/5 1/3/7 ");
         Check.due("friend(9, 2, true) anew", x.friend(9, 2, true), true);
+        x.port(2, 0);
+        Check.illegalState(x, "friend(9, 2, false) when the port is gone", () -> x.friend(9, 2, false));
+        Check.illegalState(x, "friend(9, 2, true) when the port is gone", () -> x.friend(9, 2, true));
+    }
+
+    /** Their neighbours on the next nets stay. */
+    private static void portGoesWithTheFirstAndTheLastRouter() {
+        StateBench x = new StateBench(4);
+        for (int net = 1; net <= 3; net++) {
+            x.port(net, net);
+            x.friend(0, net, true);
+            x.friend(63, net, true);
+        }
+        Check.due("port(2, 0)", x.port(2, 0), 2);
+        Check.due("port(2, 5)", x.port(2, 5), 0);
+        x.make();
+        Check.due("what it tells", Adverts.entriesOf(x, 4), "-1/1/1 -1/2/5 -1/3/3 0/1/1 63/1/1 0/3/3 63/3/3 ");
     }
 
     private static void friend() {
@@ -151,6 +171,42 @@ public final class LinksTest {
             Check.due("friend " + router + " where eight went", x.friend(router, 1, true), true);
         }
         Check.illegalState(x, "friend(28, 1, true)", () -> x.friend(28, 1, true));
+    }
+
+    private static void sixteenFriendsGoWithOnePort() {
+        StateBench x = new StateBench(0);
+        x.port(63, 1);
+        x.port(62, 1);
+        for (int router = 48; router <= 63; router++) {
+            x.friend(router, 63, true);
+        }
+        Check.illegalState(x, "friend(1, 62, true)", () -> x.friend(1, 62, true));
+        x.port(63, 0);
+        for (int router = 1; router <= 16; router++) {
+            Check.due("friend(" + router + ", 62, true)", x.friend(router, 62, true), true);
+        }
+        Check.illegalState(x, "friend(17, 62, true)", () -> x.friend(17, 62, true));
+    }
+
+    /** 8 ports and 16 friends are just the 24 entries that an advert may have. */
+    private static void mostThatItTells() {
+        StateBench x = eightPorts();
+        StringBuilder ports = new StringBuilder();
+        StringBuilder friends = new StringBuilder();
+        for (int net = 0; net < 8; net++) {
+            x.friend(63, net, true);
+            x.friend(62 - net, net, true);
+            ports.append("-1/" + net + "/" + (net + 1) + " ");
+            friends.append((62 - net) + "/" + net + "/" + (net + 1) + " 63/" + net + "/" + (net + 1) + " ");
+        }
+        Check.due("make()", x.make(), 1);
+        Check.due("entries(0)", x.entries(0), 24);
+        Check.due("what it tells", Adverts.entriesOf(x, 0), ports.toString() + friends);
+        x.pass(10);
+        Check.due("make() of the same 24", x.make(), -1);
+        x.friend(63, 7, false);
+        x.friend(1, 7, true);
+        Check.due("make() of another last one", x.make(), 2);
     }
 
     private static void whatIsToldIsInOrder() {

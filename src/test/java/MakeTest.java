@@ -3,9 +3,12 @@ public final class MakeTest {
     public static void main(String[] args) {
         makesTheFirst();
         waitsTenTicks();
+        waitsWhateverTheCause();
         makesWhatItTells();
+        makesWhatMovesToAnotherNet();
         makesNothingForWhatWentBack();
         makesAt2000();
+        makesAtTheEndOfTime();
         makesOverAHeardOne();
         makesWhenItsOwnIsOut();
         numbersGoOnOverTheGreatest();
@@ -39,6 +42,45 @@ public final class MakeTest {
         Check.due("make() 9 after the second", x.make(), -1);
         x.pass(1);
         Check.due("make() 10 after the second", x.make(), 3);
+    }
+
+    private static void waitsWhateverTheCause() {
+        StateBench heard = new StateBench(5);
+        heard.make();
+        Adverts.come(heard, 5, 2);
+        Check.due("make() at once of one heard", heard.make(), -1);
+        heard.pass(9);
+        Check.due("make() after 9 of one heard", heard.make(), -1);
+        heard.pass(1);
+        Check.due("make() after 10 of one heard", heard.make(), 3);
+
+        StateBench asked = new StateBench(5);
+        asked.make();
+        asked.port(1, 1);
+        asked.pass(9);
+        Check.due("make() that may not yet", asked.make(), -1);
+        asked.pass(1);
+        Check.due("make() 10 after the one made, not the one asked for", asked.make(), 2);
+    }
+
+    /** The same costs and routers, so that the net alone tells the difference. */
+    private static void makesWhatMovesToAnotherNet() {
+        StateBench x = new StateBench(5);
+        x.port(3, 4);
+        x.make();
+        x.port(3, 0);
+        x.port(2, 4);
+        x.pass(10);
+        Check.due("make() of a port on another net", x.make(), 2);
+        x.port(6, 4);
+        x.friend(1, 2, true);
+        x.pass(10);
+        Check.due("make()", x.make(), 3);
+        x.friend(1, 2, false);
+        x.friend(1, 6, true);
+        x.pass(10);
+        Check.due("make() of a friend on another net", x.make(), 4);
+        Check.due("what it tells", Adverts.entriesOf(x, 5), "-1/2/4 -1/6/4 1/6/4 ");
     }
 
     private static void makesWhatItTells() {
@@ -91,6 +133,21 @@ public final class MakeTest {
         Check.due("make() at 2500", x.make(), 3);
     }
 
+    private static void makesAtTheEndOfTime() {
+        StateBench x = new StateBench(5);
+        for (int i = 0; i < 99; i++) {
+            x.pass(10000);
+        }
+        x.pass(8000);
+        Check.due("make() at 998000", x.make(), 1);
+        x.pass(1999);
+        Check.due("make() at 999999", x.make(), -1);
+        x.pass(1);
+        Check.due("make() at 1000000", x.make(), 2);
+        x.port(1, 1);
+        Check.due("make() when no tick can go by", x.make(), -1);
+    }
+
     private static void makesOverAHeardOne() {
         StateBench x = new StateBench(5);
         x.make();
@@ -114,6 +171,9 @@ public final class MakeTest {
         x.pass(5000);
         Check.due("make() when it is out", x.make(), 2);
         Check.due("number(5)", x.number(5), 2);
+        Adverts.come(x, 5, 40);
+        x.pass(5000);
+        Check.due("make() when it is out and a 40 was heard", x.make(), 41);
     }
 
     private static void numbersGoOnOverTheGreatest() {

@@ -1,4 +1,8 @@
-/** All that the asking calls of an object answer, as one text. */
+/**
+ * All that the asking calls of an object answer, as one text. An object that is asked for several of
+ * them is used for more than the document's 512 calls; StateBench does not count its calls, so what it
+ * answers must hold there too. RefusalTest and ModelTest stay below 512.
+ */
 final class Snapshot {
     private Snapshot() {
     }

@@ -4,7 +4,10 @@ public final class TimeTest {
         pass();
         passRefuses();
         endOfTime();
+        wholeTicksToTheEnd();
         takesOutAt5000();
+        takesOutWhatIsMuchOlder();
+        newerOneLivesOn();
         takesOutItsOwn();
         knowsUpTo64();
         age();
@@ -64,6 +67,46 @@ public final class TimeTest {
         Check.due("pass(10000) with none left", x.pass(10000), 0);
     }
 
+    private static void wholeTicksToTheEnd() {
+        StateBench x = new StateBench(0);
+        for (int i = 1; i <= 100; i++) {
+            x.pass(10000);
+            Check.due("time()", x.time(), 10000 * i);
+        }
+        Check.illegalState(x, "pass(10000) at the end", () -> x.pass(10000));
+        Check.due("come at the end", Adverts.come(x, 1, 1, -1, 1, 1), 0);
+        Check.due("age(1) at the end", x.age(1), 0);
+    }
+
+    private static void takesOutWhatIsMuchOlder() {
+        StateBench x = new StateBench(9);
+        Adverts.come(x, 0, 1);
+        x.pass(4999);
+        Check.due("pass(0) at 4999", x.pass(0), 0);
+        Adverts.come(x, 63, 1);
+        Check.due("pass(10000) of one at 4999 and of a new one", x.pass(10000), 2);
+        Adverts.come(x, 1, 1);
+        Check.due("pass(5001)", x.pass(5001), 1);
+        Adverts.come(x, 1, 1);
+        Check.due("pass(5000)", x.pass(5000), 1);
+    }
+
+    /** Its age is that of the newer one; what came and was not taken makes none younger. */
+    private static void newerOneLivesOn() {
+        StateBench x = new StateBench(9);
+        Adverts.come(x, 1, 1);
+        Adverts.come(x, 2, 2);
+        x.pass(4999);
+        Adverts.come(x, 1, 2);
+        Adverts.come(x, 2, 2);
+        Adverts.come(x, 2, 1);
+        Check.due("pass(1)", x.pass(1), 1);
+        Check.due("age(1)", x.age(1), 1);
+        Check.due("age(2)", x.age(2), -1);
+        Check.due("pass(4998)", x.pass(4998), 0);
+        Check.due("pass(1) more", x.pass(1), 1);
+    }
+
     private static void takesOutItsOwn() {
         StateBench x = new StateBench(9);
         x.port(1, 4);
@@ -103,6 +146,7 @@ public final class TimeTest {
         x.pass(20);
         Check.due("age(0)", x.age(0), 20);
         Check.due("age(1)", x.age(1), 27);
+        Check.due("age(63) without one", x.age(63), -1);
         Check.illegalArgument(x, "age(-1)", () -> x.age(-1));
         Check.illegalArgument(x, "age(64)", () -> x.age(64));
     }

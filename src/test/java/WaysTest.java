@@ -15,6 +15,9 @@ public final class WaysTest {
         ownPortThatCostsMore();
         longestChain();
         sixteenFirstSteps();
+        stepsOfTheFirstAndTheLast();
+        oneMoreOrLessIsNoTie();
+        noWayWithoutItsOwnAdvert();
         waysGoWithTheirAdverts();
         eachQuestionSeesTheNewestBase();
         Check.end();
@@ -217,6 +220,57 @@ public final class WaysTest {
         Check.due("cost(63)", x.cost(63), 7);
         Check.due("firsts(63)", x.firsts(63), 16);
         Check.due("first steps of 63", Adverts.firstsOf(x, 63), due.toString());
+        Check.due("first(63, 15)", x.first(63, 15), 7 * 64 + 16);
+        Check.outOfBounds(x, "first(63, 16)", () -> x.first(63, 16));
+        Check.outOfBounds(x, "first(63, 32)", () -> x.first(63, 32));
+    }
+
+    private static void stepsOfTheFirstAndTheLast() {
+        StateBench x = new StateBench(30);
+        for (int net : new int[] {63, 0}) {
+            x.port(net, 1);
+            x.friend(63, net, true);
+            x.friend(0, net, true);
+        }
+        x.make();
+        Adverts.come(x, 0, 1, 30, 0, 1, 30, 63, 1, -1, 20, 1);
+        Adverts.come(x, 63, 1, 30, 0, 1, 30, 63, 1, -1, 20, 1);
+        Check.due("first steps of 20", Adverts.firstsOf(x, 20), "0/0 0/63 63/0 63/63 ");
+        Check.due("first(20, 0)", x.first(20, 0), 0);
+        Check.due("first(20, 3)", x.first(20, 3), 4095);
+        Check.due("cost(0), a port of its own", x.cost(0), 1);
+        Check.due("cost(63), a port of its own", x.cost(63), 1);
+        Check.outOfBounds(x, "first(0, 0)", () -> x.first(0, 0));
+    }
+
+    private static void oneMoreOrLessIsNoTie() {
+        StateBench x = new StateBench(0);
+        x.port(1, 3);
+        x.port(9, 5);
+        x.friend(5, 1, true);
+        x.make();
+        int[] portOf5 = {1, 2, 3};
+        int[] costOf9 = {4, 5, 5};
+        int[] firstsOf9 = {1, 0, 0};
+        for (int i = 0; i < portOf5.length; i++) {
+            Adverts.come(x, 5, i + 1, 0, 1, 1, -1, 9, portOf5[i]);
+            Check.due("cost(9) with " + portOf5[i] + " at 5", x.cost(9), costOf9[i]);
+            Check.due("firsts(9) with " + portOf5[i] + " at 5", x.firsts(9), firstsOf9[i]);
+        }
+    }
+
+    private static void noWayWithoutItsOwnAdvert() {
+        StateBench x = new StateBench(0);
+        x.port(1, 1);
+        x.friend(5, 1, true);
+        Adverts.come(x, 5, 1, 0, 1, 1, -1, 9, 1);
+        Adverts.come(x, 0, 7, 5, 1, 1, -1, 1, 1);
+        Check.due("distance(0)", x.distance(0), 0);
+        Check.due("distance(5): one heard of itself is not taken", x.distance(5), -1);
+        Check.due("cost(9)", x.cost(9), -1);
+        Check.due("cost(1)", x.cost(1), -1);
+        Check.due("firsts(9)", x.firsts(9), 0);
+        Check.outOfBounds(x, "first(9, 0)", () -> x.first(9, 0));
     }
 
     private static void waysGoWithTheirAdverts() {
