@@ -1,22 +1,36 @@
-import java.lang.reflect.Constructor;
-import java.lang.reflect.Field;
-import java.lang.reflect.Method;
+import java.lang.reflect.Member;
 import java.lang.reflect.Modifier;
 import java.util.Arrays;
 import java.util.TreeSet;
 
 /** The public face: just the members of the document, and none that other code could see besides. */
 public final class FaceTest {
+    // As the machine writes them, without the names of packages and of the class before each member.
     private static final String[] FACE = {
-        "boolean friend(int,int,boolean)", "int age(int)", "int come()", "int cost(int)", "int distance(int)",
-        "int entries(int)", "int entry(int,int,int)", "int first(int,int)", "int firsts(int)", "int known()",
-        "int make()", "int number(int)", "int pass(int)", "int port(int,int)", "int time()",
-        "int told(int,int,int)", "void begin(int,int)", "StateBench(int)", "int NONE"};
+        "public static final int NONE",
+        "public StateBench(int)",
+        "public int port(int,int) throws IllegalArgumentException,IllegalStateException",
+        "public boolean friend(int,int,boolean) throws IllegalArgumentException,IllegalStateException",
+        "public void begin(int,int) throws IllegalArgumentException",
+        "public int entry(int,int,int) throws IllegalArgumentException,IllegalStateException",
+        "public int come() throws IllegalStateException",
+        "public int pass(int) throws IllegalArgumentException,IllegalStateException",
+        "public int make()",
+        "public int number(int) throws IllegalArgumentException",
+        "public int told(int,int,int) throws IllegalArgumentException,IndexOutOfBoundsException",
+        "public int entries(int) throws IllegalArgumentException",
+        "public int age(int) throws IllegalArgumentException",
+        "public int distance(int) throws IllegalArgumentException",
+        "public int cost(int) throws IllegalArgumentException",
+        "public int firsts(int) throws IllegalArgumentException",
+        "public int first(int,int) throws IllegalArgumentException,IndexOutOfBoundsException",
+        "public int known()",
+        "public int time()"};
 
     public static void main(String[] args) {
         TreeSet<String> due = new TreeSet<>(Arrays.asList(FACE));
-        Check.due("the face", visibleMembers().toString(), due.toString());
-        Check.due("final", Modifier.isFinal(StateBench.class.getModifiers()), true);
+        Check.due("the face", String.join("\n", visibleMembers()), String.join("\n", due));
+        Check.due("the class", Modifier.toString(StateBench.class.getModifiers()), "public final");
         for (Class<?> inside : StateBench.class.getDeclaredClasses()) {
             Check.due(inside + " is static", Modifier.isStatic(inside.getModifiers()), true);
         }
@@ -25,29 +39,17 @@ public final class FaceTest {
 
     private static TreeSet<String> visibleMembers() {
         TreeSet<String> seen = new TreeSet<>();
-        for (Method m : StateBench.class.getDeclaredMethods()) {
-            if (!Modifier.isPrivate(m.getModifiers())) {
-                seen.add(m.getReturnType() + " " + m.getName() + parameters(m.getParameterTypes()));
-            }
-        }
-        for (Constructor<?> c : StateBench.class.getDeclaredConstructors()) {
-            if (!Modifier.isPrivate(c.getModifiers())) {
-                seen.add("StateBench" + parameters(c.getParameterTypes()));
-            }
-        }
-        for (Field f : StateBench.class.getDeclaredFields()) {
-            if (!Modifier.isPrivate(f.getModifiers())) {
-                seen.add(f.getType() + " " + f.getName());
-            }
-        }
+        addVisible(seen, StateBench.class.getDeclaredFields());
+        addVisible(seen, StateBench.class.getDeclaredConstructors());
+        addVisible(seen, StateBench.class.getDeclaredMethods());
         return seen;
     }
 
-    private static String parameters(Class<?>[] types) {
-        StringBuilder text = new StringBuilder("(");
-        for (int i = 0; i < types.length; i++) {
-            text.append(i == 0 ? "" : ",").append(types[i]);
+    private static void addVisible(TreeSet<String> seen, Member[] members) {
+        for (Member member : members) {
+            if (!Modifier.isPrivate(member.getModifiers())) {
+                seen.add(member.toString().replace("StateBench.", "").replace("java.lang.", ""));
+            }
         }
-        return text.append(")").toString();
     }
 }
